@@ -16,6 +16,17 @@ public final class StateMill {
     private static final int MOST_CODES = 8;
     private static final int MOST_ANSWER = 3;
     private static final int MOST_DIGITS = 8;
+    /** Above every COST and SUM. */
+    private static final int NO_LIMIT = 1000;
+    /** Of any two STATES the one bit of 15 that stands for them; of one and the same: none. */
+    private static final int[] PAIR_MASKS = {
+        0, 1, 2, 4, 8, 16,
+        1, 0, 32, 64, 128, 256,
+        2, 32, 0, 512, 1024, 2048,
+        4, 64, 512, 0, 4096, 8192,
+        8, 128, 1024, 4096, 0, 16384,
+        16, 256, 2048, 8192, 16384, 0
+    };
 
     private final Machine machine = new Machine();
     private final History history = new History(machine);
@@ -105,7 +116,7 @@ public final class StateMill {
         if (!machine.hasState(state) || !machine.hasState(other) || what < 0 || what > 1) {
             return NONE;
         }
-        int round = pairs.roundOf(state, other);
+        int round = pairsNow().roundOf(state, other);
         if (what == 1) {
             return round;
         }
@@ -116,7 +127,7 @@ public final class StateMill {
         if (!machine.hasState(state) || !machine.hasState(other)) {
             return NONE;
         }
-        int round = pairs.roundOf(state, other);
+        int round = pairsNow().roundOf(state, other);
         if (round == OPEN) {
             return OPEN;
         }
@@ -128,7 +139,7 @@ public final class StateMill {
     }
 
     public int shown(int i) {
-        int length = pairs.lengthShown();
+        int length = pairsNow().lengthShown();
         if (length == OPEN || i == NONE) {
             return length;
         }
@@ -136,32 +147,30 @@ public final class StateMill {
     }
 
     public int classes() {
-        cover.refresh();
-        return cover.setCount;
+        return coverNow().setCount;
     }
 
     public int greatest(int i) {
-        cover.refresh();
+        int many = coverNow().greatestCount;
         if (i == NONE) {
-            return cover.greatestCount;
+            return many;
         }
-        return i >= 0 && i < cover.greatestCount ? cover.greatestSets[i] : NONE;
+        return i >= 0 && i < many ? cover.greatestSets[i] : NONE;
     }
 
     public int fewest(int i) {
-        cover.refreshFewest();
+        int many = fewestNow().fewestCount;
         if (i == NONE) {
-            return cover.fewestCount;
+            return many;
         }
-        return cover.hasFewest(i) ? cover.fewestSets[i] : NONE;
+        return i >= 0 && i < many ? cover.fewestSets[i] : NONE;
     }
 
     public int isClass(int set) {
         if (set == 0 || !machine.hasSet(set)) {
             return NONE;
         }
-        cover.refresh();
-        return cover.alike[set] ? 1 : 0;
+        return coverNow().alike[set] ? 1 : 0;
     }
 
     public int leads(int set, int input) {
@@ -169,19 +178,18 @@ public final class StateMill {
     }
 
     public int small(int state, int input, int what) {
-        cover.refreshFewest();
-        if (!cover.hasFewest(state) || !machine.hasInput(input) || what < 0 || what > 1) {
+        if (!fewestNow().hasFewest(state) || !machine.hasInput(input) || what < 0 || what > 1) {
             return NONE;
         }
         return what == 0 ? cover.smallTarget(state, input) : cover.smallAnswer(state, input);
     }
 
     public int home(int state) {
-        return machine.hasState(state) ? cover.homeOf(state) : NONE;
+        return machine.hasState(state) ? fewestNow().homeOf(state) : NONE;
     }
 
     public int met(int state) {
-        return machine.hasState(state) ? cover.metBy(state) : NONE;
+        return machine.hasState(state) ? fewestNow().metBy(state) : NONE;
     }
 
     public int run(int state, int word, int n, int what) {
@@ -189,7 +197,7 @@ public final class StateMill {
             return NONE;
         }
         int now = state;
-        int smallNow = cover.homeOf(state);
+        int smallNow = fewestNow().homeOf(state);
         int gone = 0;
         int alike = 0;
         int told = 0;
@@ -218,7 +226,7 @@ public final class StateMill {
     }
 
     public int goesOn(int partition) {
-        int index = partitions.indexOf(partition);
+        int index = partitionsNow().indexOf(partition);
         if (index == NONE) {
             return NONE;
         }
@@ -226,19 +234,19 @@ public final class StateMill {
     }
 
     public int together(int state, int other) {
-        return machine.hasState(state) && machine.hasState(other) ? partitions.joined(state, other) : NONE;
+        return machine.hasState(state) && machine.hasState(other) ? partitionsNow().joined(state, other) : NONE;
     }
 
     public int partition(int i) {
-        partitions.refresh();
+        int many = partitionsNow().goingCount;
         if (i == NONE) {
-            return partitions.goingCount;
+            return many;
         }
-        return i >= 0 && i < partitions.goingCount ? partitions.numbers[partitions.going[i]] : NONE;
+        return i >= 0 && i < many ? partitions.numbers[partitions.going[i]] : NONE;
     }
 
     public int into(int partition) {
-        int index = partitions.indexOf(partition);
+        int index = partitionsNow().indexOf(partition);
         return index == NONE ? NONE : partitions.intoOf(index);
     }
 
@@ -246,7 +254,7 @@ public final class StateMill {
         if (what < 0 || what > 2) {
             return NONE;
         }
-        partitions.refreshSplit();
+        partitionsNow().refreshSplit();
         switch (what) {
             case 0: return partitions.splitOne;
             case 1: return partitions.splitOther;
@@ -255,12 +263,12 @@ public final class StateMill {
     }
 
     public int tail(int partition) {
-        int index = partitions.goingIndexOf(partition);
+        int index = partitionsNow().goingIndexOf(partition);
         return index == NONE ? NONE : partitions.numbers[partitions.tailOf(index)];
     }
 
     public int part(int partition, int block, int input) {
-        int index = partitions.goingIndexOf(partition);
+        int index = partitionsNow().goingIndexOf(partition);
         if (index == NONE || !partitions.hasBlock(index, block) || !machine.hasInput(input)) {
             return NONE;
         }
@@ -268,7 +276,7 @@ public final class StateMill {
     }
 
     public int series(int partition, int head, int tail, int input, int what) {
-        int index = partitions.goingIndexOf(partition);
+        int index = partitionsNow().goingIndexOf(partition);
         if (index == NONE || !partitions.hasBlock(index, head) || !machine.hasInput(input) || what < 0 || what > 1) {
             return NONE;
         }
@@ -285,7 +293,7 @@ public final class StateMill {
     }
 
     public int beside(int one, int other, int state, int word, int n) {
-        int first = partitions.goingIndexOf(one);
+        int first = partitionsNow().goingIndexOf(one);
         int second = partitions.goingIndexOf(other);
         if (first == NONE || second == NONE || !machine.hasState(state) || !machine.hasWord(word, n)) {
             return NONE;
@@ -309,14 +317,12 @@ public final class StateMill {
         if (!machine.hasBit(bit) || what < 0 || what > 1) {
             return NONE;
         }
-        hanging.load(machine.codes);
-        int bits = hanging.leastSet(bit);
+        int bits = hangingNow().leastSet(bit);
         return bits == OPEN || what == 1 ? bits : Integer.bitCount(bits);
     }
 
     public int cost() {
-        hanging.load(machine.codes);
-        return hanging.total();
+        return hangingNow().total();
     }
 
     public int cube(int bit, int input, int i) {
@@ -334,7 +340,7 @@ public final class StateMill {
     }
 
     public int sum() {
-        return machine.isProper() ? cubes.total(machine.codes, Integer.MAX_VALUE) : OPEN;
+        return machine.isProper() ? cubes.total(machine.codes, machine.states, NO_LIMIT) : OPEN;
     }
 
     public int coded(int code, int input) {
@@ -348,6 +354,7 @@ public final class StateMill {
         if (by < 0 || by > 1 || state != NONE && !machine.hasState(state)) {
             return NONE;
         }
+        pairs.refresh();
         finest.refresh(by);
         return state == NONE ? finest.values[by] : finest.codes[by * MOST_STATES + state];
     }
@@ -366,8 +373,8 @@ public final class StateMill {
             case 1: return machine.inputs;
             case 2: return machine.openMoves();
             case 3: return machine.toldAnswers();
-            case 4: return pairs.apartCount();
-            case 5: return pairs.greatestRound();
+            case 4: return pairsNow().apartCount();
+            case 5: return pairsNow().greatestRound();
             case 6: return machine.bits();
             case 7: return machine.codeNumber();
             case 8: return tape.length;
@@ -375,10 +382,45 @@ public final class StateMill {
             case 10: return history.slotCount();
             case 11: return machine.unreached();
             case 12: return machine.isProper() ? 1 : 0;
-            case 13: return cover.metCount();
-            case 14: return partitions.leastBlocks();
+            case 13: return fewestNow().metCount();
+            case 14: return partitionsNow().leastBlocks();
             default: return NONE;
         }
+    }
+
+    private Pairs pairsNow() {
+        pairs.refresh();
+        return pairs;
+    }
+
+    private Cover coverNow() {
+        pairs.refresh();
+        cover.refresh();
+        return cover;
+    }
+
+    private Cover fewestNow() {
+        pairs.refresh();
+        cover.refresh();
+        cover.refreshFewest();
+        return cover;
+    }
+
+    private Partitions partitionsNow() {
+        pairs.refresh();
+        partitions.refresh();
+        return partitions;
+    }
+
+    private Hanging hangingNow() {
+        pairs.refresh();
+        hanging.load(machine.codes);
+        return hanging;
+    }
+
+    private static int pairOf(int state, int other) {
+        int at = state * MOST_STATES + other;
+        return at >= 0 && at < PAIR_MASKS.length ? PAIR_MASKS[at] : 0;
     }
 
     /** STATES with their MOVES, ANSWERS and codes: the one at work, and what a SLOT holds. */
@@ -450,11 +492,11 @@ public final class StateMill {
         }
 
         int targetOf(int state, int input) {
-            return hasState(state) && hasInput(input) ? targets[state * MOST_INPUTS + input] : OPEN;
+            return state >= 0 && state < states && input >= 0 && input < inputs ? targets[state * MOST_INPUTS + input] : OPEN;
         }
 
         int answerOf(int state, int input) {
-            return hasState(state) && hasInput(input) ? answers[state * MOST_INPUTS + input] : OPEN;
+            return state >= 0 && state < states && input >= 0 && input < inputs ? answers[state * MOST_INPUTS + input] : OPEN;
         }
 
         void putMove(int state, int input, int to, int answer) {
@@ -600,7 +642,9 @@ public final class StateMill {
         }
 
         void emptySlots() {
-            Arrays.fill(full, false);
+            for (int slot = 0; slot < MOST_SLOTS; slot++) {
+                full[slot] = false;
+            }
         }
 
         boolean keepSlot(int slot) {
@@ -986,7 +1030,7 @@ public final class StateMill {
         /** Of each pair all pairs to which one INPUT leads it. */
         private final int[] follows = new int[MOST_PAIRS];
         private final int[] rounds = new int[MOST_PAIRS];
-        private int apartMask;
+        int apartMask;
         private int seen = NONE;
         final int[] shownWord = new int[MOST_SHOWN];
         private int shownLength;
@@ -994,16 +1038,6 @@ public final class StateMill {
 
         Pairs(Machine machine) {
             this.machine = machine;
-        }
-
-        static int indexOf(int state, int other) {
-            int low = Math.min(state, other);
-            int high = Math.max(state, other);
-            return low * (2 * MOST_STATES - 1 - low) / 2 + high - low - 1;
-        }
-
-        static int maskOf(int state, int other) {
-            return state == other ? 0 : 1 << indexOf(state, other);
         }
 
         void refresh() {
@@ -1025,7 +1059,7 @@ public final class StateMill {
         }
 
         private void look(int low, int high) {
-            int pair = indexOf(low, high);
+            int pair = Integer.numberOfTrailingZeros(pairOf(low, high));
             for (int input = 0; input < machine.inputs; input++) {
                 follows[pair] |= stepOf(low, high, input);
                 if (isUnlike(low, high, input)) {
@@ -1048,7 +1082,7 @@ public final class StateMill {
         private int stepOf(int state, int other, int input) {
             int to = machine.targetOf(state, input);
             int otherTo = machine.targetOf(other, input);
-            return to < 0 || otherTo < 0 ? 0 : maskOf(to, otherTo);
+            return to < 0 || otherTo < 0 ? 0 : pairOf(to, otherTo);
         }
 
         private boolean isUnlike(int state, int other, int input) {
@@ -1057,17 +1091,11 @@ public final class StateMill {
             return answer >= 0 && otherAnswer >= 0 && answer != otherAnswer;
         }
 
-        int apartOnes() {
-            refresh();
-            return apartMask;
-        }
-
         int apartCount() {
-            return Integer.bitCount(apartOnes());
+            return Integer.bitCount(apartMask);
         }
 
         int greatestRound() {
-            refresh();
             int greatest = OPEN;
             for (int pair = 0; pair < MOST_PAIRS; pair++) {
                 greatest = Math.max(greatest, rounds[pair]);
@@ -1076,8 +1104,7 @@ public final class StateMill {
         }
 
         int roundOf(int state, int other) {
-            refresh();
-            return roundIn(maskOf(state, other));
+            return roundIn(pairOf(state, other));
         }
 
         private int roundIn(int pairMask) {
@@ -1086,7 +1113,6 @@ public final class StateMill {
 
         /** All pairs to which one INPUT leads one of these. */
         int followed(int pairMask) {
-            refresh();
             int led = 0;
             for (int pair = 0; pair < MOST_PAIRS; pair++) {
                 if ((pairMask >> pair & 1) == 1) {
@@ -1126,7 +1152,6 @@ public final class StateMill {
         }
 
         int lengthShown() {
-            refresh();
             if (shownSeen != machine.age) {
                 shownSeen = machine.age;
                 shownLength = OPEN;
@@ -1168,7 +1193,7 @@ public final class StateMill {
         private boolean canTell(int stand, int told, int left) {
             for (int low = 0; low < machine.states; low++) {
                 for (int high = low + 1; high < machine.states; high++) {
-                    if ((apartMask & ~told & maskOf(low, high)) != 0) {
+                    if ((apartMask & ~told & pairOf(low, high)) != 0) {
                         int round = roundBetween(stand >> 3 * low & 7, stand >> 3 * high & 7);
                         if (round == OPEN || round >= left) {
                             return false;
@@ -1180,7 +1205,7 @@ public final class StateMill {
         }
 
         private int roundBetween(int state, int other) {
-            return state == NOWHERE || other == NOWHERE ? OPEN : roundIn(maskOf(state, other));
+            return state == NOWHERE || other == NOWHERE ? OPEN : roundIn(pairOf(state, other));
         }
 
         private int standBehind(int stand, int input) {
@@ -1197,7 +1222,7 @@ public final class StateMill {
             for (int low = 0; low < machine.states; low++) {
                 for (int high = low + 1; high < machine.states; high++) {
                     if (isUnlike(stand >> 3 * low & 7, stand >> 3 * high & 7, input)) {
-                        told |= maskOf(low, high);
+                        told |= pairOf(low, high);
                     }
                 }
             }
@@ -1235,8 +1260,7 @@ public final class StateMill {
             seen = machine.age;
             setCount = 0;
             widest = 0;
-            int apart = pairs.apartOnes();
-            Arrays.fill(alike, false);
+            int apart = pairs.apartMask;
             for (int set = 1; set < 1 << machine.states; set++) {
                 alike[set] = (pairsIn(set) & apart) == 0;
                 if (alike[set]) {
@@ -1251,7 +1275,7 @@ public final class StateMill {
             for (int low = 0; low < machine.states; low++) {
                 for (int high = low + 1; high < machine.states; high++) {
                     if ((set >> low & set >> high & 1) == 1) {
-                        inside |= Pairs.maskOf(low, high);
+                        inside |= pairOf(low, high);
                     }
                 }
             }
@@ -1288,7 +1312,6 @@ public final class StateMill {
 
         /** The sets of one STATE each are a COVER, so that no more CLASSES than STATES are ever wanted. */
         void refreshFewest() {
-            refresh();
             if (fewestSeen == machine.age) {
                 return;
             }
@@ -1350,7 +1373,6 @@ public final class StateMill {
         }
 
         int smallTarget(int smallState, int input) {
-            refreshFewest();
             int led = hasFewest(smallState) ? machine.leadOf(fewestSets[smallState], input) : 0;
             return led == 0 ? OPEN : firstHolding(led);
         }
@@ -1366,7 +1388,6 @@ public final class StateMill {
 
         /** Any told ANSWER will do: STATES of one CLASS have none that are unlike. */
         int smallAnswer(int smallState, int input) {
-            refreshFewest();
             int answer = OPEN;
             for (int state = 0; state < machine.states && hasFewest(smallState); state++) {
                 if ((fewestSets[smallState] >> state & 1) == 1) {
@@ -1377,13 +1398,11 @@ public final class StateMill {
         }
 
         int homeOf(int state) {
-            refreshFewest();
             return firstHolding(1 << state);
         }
 
         /** To be in it is all: a STATE of a CLASS goes into what this leads to, and so into the CLASS that holds that. */
         int metBy(int state) {
-            refreshFewest();
             int classesMet = 0;
             for (int i = 0; i < fewestCount; i++) {
                 classesMet |= (fewestSets[i] >> state & 1) << i;
@@ -1466,7 +1485,7 @@ public final class StateMill {
             for (int low = 0; low < listedStates; low++) {
                 for (int high = low + 1; high < listedStates; high++) {
                     if (blockOf(index, low) == blockOf(index, high)) {
-                        joined |= Pairs.maskOf(low, high);
+                        joined |= pairOf(low, high);
                     }
                 }
             }
@@ -1479,7 +1498,6 @@ public final class StateMill {
         }
 
         int indexOf(int number) {
-            refresh();
             for (int index = 0; index < total; index++) {
                 if (numbers[index] == number) {
                     return index;
@@ -1518,8 +1536,7 @@ public final class StateMill {
         }
 
         int joined(int state, int other) {
-            refresh();
-            int pair = Pairs.maskOf(state, other);
+            int pair = pairOf(state, other);
             int most = NONE;
             for (int i = 0; i < goingCount; i++) {
                 int index = going[i];
@@ -1554,7 +1571,6 @@ public final class StateMill {
         }
 
         void refreshSplit() {
-            refresh();
             if (splitSeen == machine.age) {
                 return;
             }
@@ -1580,7 +1596,6 @@ public final class StateMill {
         }
 
         int leastBlocks() {
-            refresh();
             int least = OPEN;
             for (int i = 0; i < goingCount; i++) {
                 int many = blocks[going[i]];
@@ -1628,7 +1643,7 @@ public final class StateMill {
             for (int low = 0; low < machine.states; low++) {
                 for (int high = low + 1; high < machine.states; high++) {
                     if (((codes[low] ^ codes[high]) & bits) == 0) {
-                        alike |= Pairs.maskOf(low, high);
+                        alike |= pairOf(low, high);
                     }
                 }
             }
@@ -1662,6 +1677,8 @@ public final class StateMill {
     private static final class Cubes {
         private static final int MOST_CUBES = 27;
         private static final int[] CUBES_OF_BITS = {1, 3, 9, 27};
+        /** The BITS of each code, eight places from one to the next, so that each has room for a set of codes. */
+        private static final int[] SPREAD = {0, 1, 256, 257, 65536, 65537, 65792, 65793};
 
         private final Machine machine;
         /** Of each CUBE the codes that it holds (bits). */
@@ -1671,6 +1688,8 @@ public final class StateMill {
         /** How many CUBES it takes, one more, by codes to hold and codes not to hold; 0: not known yet. */
         private final byte[] known = new byte[6561];
         final int[] listed = new int[MOST_CODES];
+        private int leading;
+        private int wanting;
         private int on;
         private int off;
 
@@ -1702,20 +1721,23 @@ public final class StateMill {
             return true;
         }
 
-        /** Which codes the next BIT wants held (on) and which not (off). */
-        private void look(int[] codes, int bit, int input) {
-            on = 0;
-            off = 0;
-            for (int state = 0; state < machine.states; state++) {
+        /** By an INPUT, with the MOVES among the first STATES alone: the codes that lead, and to which codes. */
+        private void look(int[] codes, int stateCount, int input) {
+            leading = 0;
+            wanting = 0;
+            for (int state = 0; state < stateCount; state++) {
                 int to = machine.targetOf(state, input);
-                if (to >= 0) {
-                    if ((codes[to] >> bit & 1) == 1) {
-                        on |= 1 << codes[state];
-                    } else {
-                        off |= 1 << codes[state];
-                    }
+                if (to >= 0 && to < stateCount) {
+                    leading |= 1 << codes[state];
+                    wanting |= SPREAD[codes[to] & 7] << codes[state];
                 }
             }
+        }
+
+        /** Which of them the next BIT wants held (on) and which not (off). */
+        private void aim(int bit) {
+            on = wanting >> MOST_CODES * bit & 255;
+            off = leading & ~on;
         }
 
         /**
@@ -1745,7 +1767,8 @@ public final class StateMill {
         }
 
         int list(int bit, int input) {
-            look(machine.codes, bit, input);
+            look(machine.codes, machine.states, input);
+            aim(bit);
             int size = least(on, 0);
             choose(0, 0, size, on);
             return size;
@@ -1768,12 +1791,13 @@ public final class StateMill {
             return false;
         }
 
-        /** SUM; or, as soon as it is not below the limit, what there is of it by then. */
-        int total(int[] codes, int limit) {
+        /** SUM by the MOVES among the first STATES; or, once it is not below the limit, what there is of it by then. */
+        int total(int[] codes, int stateCount, int limit) {
             int all = 0;
-            for (int input = 0; input < machine.inputs; input++) {
+            for (int input = 0; input < machine.inputs && all < limit; input++) {
+                look(codes, stateCount, input);
                 for (int bit = 0; bit < machine.bits() && all < limit; bit++) {
-                    look(codes, bit, input);
+                    aim(bit);
                     all += least(on, 0);
                 }
             }
@@ -1813,7 +1837,7 @@ public final class StateMill {
         void refresh(int by) {
             if (seen[by] != machine.age) {
                 seen[by] = machine.age;
-                values[by] = Integer.MAX_VALUE;
+                values[by] = NO_LIMIT;
                 assign(by, 0, 0);
             }
         }
@@ -1828,7 +1852,7 @@ public final class StateMill {
             int top = by == BY_COST && state == 0 ? 1 : 1 << machine.bits();
             for (int code = 0; code < top; code++) {
                 trial[state] = code;
-                if ((used >> code & 1) == 0 && areBitsInOrder(state + 1)) {
+                if ((used >> code & 1) == 0 && areBitsInOrder(state + 1) && canBeLess(by, state + 1)) {
                     assign(by, state + 1, used | 1 << code);
                 }
             }
@@ -1855,13 +1879,18 @@ public final class StateMill {
             return false;
         }
 
+        /** With more STATES SUM only grows: where the first ones make it too much, no codes of the others help. */
+        private boolean canBeLess(int by, int stateCount) {
+            return by == BY_COST || cubes.total(trial, stateCount, values[by]) < values[by];
+        }
+
         private void weigh(int by) {
             int value;
             if (by == BY_COST) {
                 hanging.load(trial);
                 value = hanging.total();
             } else {
-                value = cubes.total(trial, values[by]);
+                value = cubes.total(trial, machine.states, values[by]);
             }
             if (value < values[by]) {
                 values[by] = value;
