@@ -885,13 +885,13 @@ public final class StateMill {
         }
 
         private static boolean fits(char due, int kind) {
-            switch (due) {
-                case 'n': return kind == NAME;
-                case 'i': return kind == INT;
-                case 't': return kind == NAME || kind == OPENLY;
-                case 'a': return kind == INT || kind == OPENLY;
-                default: return kind == SIGN;
+            if (due == 'n' || due == 't') {
+                return kind == NAME || due == 't' && kind == OPENLY;
             }
+            if (due == 'i' || due == 'a') {
+                return kind == INT || due == 'a' && kind == OPENLY;
+            }
+            return kind == SIGN;
         }
     }
 
@@ -1060,6 +1060,9 @@ public final class StateMill {
 
         private void look(int low, int high) {
             int pair = Integer.numberOfTrailingZeros(pairOf(low, high));
+            if (pair >= MOST_PAIRS) {
+                return;
+            }
             for (int input = 0; input < machine.inputs; input++) {
                 follows[pair] |= stepOf(low, high, input);
                 if (isUnlike(low, high, input)) {

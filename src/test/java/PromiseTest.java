@@ -173,6 +173,9 @@ public final class PromiseTest {
         fault("state open;", 1, 6);
         fault("state code;", 1, 6);
         fault("state states;state opens;", 0, NONE);
+        fault("state xtate;state nputs;state xove;state xpen;state xode;state statx;", 0, NONE);
+        fault("xtate a;", 1, 0);
+        fault("state xnputs;state movx;state opex;state codx;state inputx;state staxe;", 0, NONE);
         fault("open;", 1, 0);
         fault("1;", 1, 0);
         fault("a;", 1, 0);
@@ -277,6 +280,11 @@ public final class PromiseTest {
         due("move(1,0,1)", mill.move(1, 0, 1), 2);
         due("move(1,1,0): told by none", mill.move(1, 1, 0), OPEN);
         due("codes: the last one told, its number", mill.count(7), 4 * 8);
+        StateMill ahead = mill("move bc 0 ac 2;code ac 6;state ac;state bc;");
+        due("a first line of moves", ahead.move(1, 0, 0), 0);
+        due("its answer", ahead.move(1, 0, 1), 2);
+        due("and of codes", ahead.count(7), 6 + 8);
+        due("a first line of codes", mill("code b 3;state a;state b;").count(7), 24);
         mill.hold(1);
         mill.set(0, 0, 1, 1);
         put(mill, "state x; state x;");
