@@ -1456,7 +1456,10 @@ public final class StateMill {
             if (listedStates != machine.states) {
                 listedStates = machine.states;
                 total = 0;
-                grow(0, 0, 0);
+                // A PARTITION has one BLOCK at least: of no STATES there is none.
+                if (listedStates > 0) {
+                    grow(0, 0, 0);
+                }
             }
             goingCount = 0;
             for (int index = 0; index < total; index++) {

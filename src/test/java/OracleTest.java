@@ -77,24 +77,39 @@ public final class OracleTest {
     private static void oneRun(Random random, int run) {
         StateMill mill = new StateMill();
         Plain plain = new Plain();
-        String text = machineText(random, plain.drawShape(random));
-        feedText(mill, plain, text);
-        due("run " + run + " read", mill.read(), plain.read());
+        int calls = readAnew(random, mill, plain, "run " + run);
         int focus = random.nextInt(6);
-        for (int k = 0; k < 400 && wrong < 20; k++) {
+        while (calls < 400 && wrong < 20) {
             String name = CALLS[random.nextInt(CALLS.length)];
             if (random.nextInt(12) == 0) {
                 name = focus < 3 ? "set" : "code";
             }
-            oneCall(random, mill, plain, name, "run " + run + " (" + k + ") ");
+            oneCall(random, mill, plain, name, "run " + run + " (" + calls + ") ");
+            calls++;
+            if (random.nextInt(80) == 0) {
+                calls += readAnew(random, mill, plain, "run " + run + " (" + calls + ") anew");
+            }
         }
+    }
+
+    /** What was reckoned of the text ahead must be gone then, also if the new one tells no STATES, or has a FAULT. */
+    private static int readAnew(Random random, StateMill mill, Plain plain, String before) {
+        int onTape = plain.count(8);
+        due(before + " back", mill.back(onTape), plain.back(onTape));
+        int kind = random.nextInt(8);
+        String text = kind == 0 ? "" : machineText(random, plain.drawShape(random));
+        int fed = feedText(mill, plain, kind == 1 ? spoil(random, text) : text);
+        due(before + " read", mill.read(), plain.read());
+        due(before + " place", mill.place(), plain.place);
+        return fed + 3;
     }
 
     private static long b(boolean answer) {
         return answer ? 1 : 0;
     }
 
-    private static void feedText(StateMill mill, Plain plain, String text) {
+    /** How many calls it took. */
+    private static int feedText(StateMill mill, Plain plain, String text) {
         StringBuilder padded = new StringBuilder(text);
         while (padded.length() % 20 != 0) {
             padded.append(' ');
@@ -109,6 +124,7 @@ public final class OracleTest {
         }
         int more = padded.length() - text.length();
         due("back", mill.back(more), plain.back(more));
+        return padded.length() / 20 + 1;
     }
 
     /** shape: states, inputs, percent of open moves, percent of open answers, how many answers. */
@@ -313,7 +329,7 @@ public final class OracleTest {
         int drawPartition(Random random) {
             List<Integer> all = random.nextInt(3) == 0 ? allPartitions() : going();
             if (all.isEmpty() || random.nextInt(20) == 0) {
-                return random.nextInt(15000) - 10;
+                return random.nextInt(3) == 0 ? 0 : random.nextInt(15000) - 10;
             }
             return all.get(random.nextInt(all.size()));
         }

@@ -47,6 +47,7 @@ public final class PromiseTest {
         tailsAndParts();
         seriesOfParts();
         besideParts();
+        partitionsOfNoStates();
         hangingBits();
         cubesOfBits();
         codedOnes();
@@ -743,6 +744,56 @@ public final class PromiseTest {
         StateMill bridge = mill(BRIDGE);
         due("both stop where one is open", bridge.beside(12, 0, 2, 0, 8), 2);
         due("so they do", bridge.beside(12, 11, 2, 0, 2), 2);
+    }
+
+    /** A PARTITION has one BLOCK at least: where there are no STATES, there is none, whatever was read before. */
+    private static void partitionsOfNoStates() {
+        for (String text : new String[] {"", "   ", "inputs 3;"}) {
+            for (String ahead : new String[] {FOUR, CHAIN, BRIDGE, "state a;", ""}) {
+                StateMill mill = mill(ahead);
+                askAll(mill, 0, 0, 0);
+                put(mill, text);
+                due("read of <" + text + ">", mill.read(), 0);
+                noPartition(mill);
+                put(mill, "state a;");
+                due("read of one state", mill.read(), 0);
+                due("one partition of one state", mill.partition(NONE), 1);
+                due("it goes on", mill.goesOn(0), 1);
+                put(mill, text);
+                due("read of <" + text + "> again", mill.read(), 0);
+                noPartition(mill);
+            }
+        }
+        noPartition(new StateMill());
+    }
+
+    private static void noPartition(StateMill mill) {
+        for (int number : new int[] {0, 1, 11, 101, 12345, NONE, OPEN, LOW, FAR}) {
+            promise = 22;
+            due("goesOn", mill.goesOn(number), NONE);
+            promise = 25;
+            due("into", mill.into(number), NONE);
+            promise = 27;
+            due("tail", mill.tail(number), NONE);
+            promise = 28;
+            due("part", mill.part(number, 0, 0), NONE);
+            promise = 29;
+            due("series 0", mill.series(number, 0, 0, 0, 0), NONE);
+            due("series 1", mill.series(number, 0, 0, 0, 1), NONE);
+            promise = 30;
+            due("beside", mill.beside(number, number, 0, 0, 0), NONE);
+        }
+        promise = 23;
+        due("together", mill.together(0, 0), NONE);
+        promise = 24;
+        due("how many", mill.partition(NONE), 0);
+        due("the 0th", mill.partition(0), NONE);
+        promise = 26;
+        for (int what = 0; what < 3; what++) {
+            due("split", mill.split(what), OPEN);
+        }
+        promise = 39;
+        due("count(14)", mill.count(14), OPEN);
     }
 
     private static void hangingBits() {
