@@ -1753,6 +1753,13 @@ public final class EdgeTest {
             "state a;state b;state c;move a 0 c 0;move b 0 c 0;move c 1 b 0;move a 1 a 0;",
             states(4) + "inputs 3;move a 0 d 0;move b 0 d 0;move c 0 a 0;move d 1 b 0;move b 1 b 0;move c 2 d 0;move a 2 b 0;",
             states(5) + "move a 0 b 0;move b 0 c 0;move c 0 a 0;move d 0 e 0;move a 1 e 0;move e 1 d 0;move c 1 a 0;",
+            // By SUM STATE 0 has 3 here, or 7, and STATE 1 the code behind or ahead of STATE 2's.
+            states(4) + "move b 0 d 0;move b 1 b 0;move c 1 c 0;move d 0 b 0;",
+            states(4) + "move a 1 d 0;move b 0 d 0;move c 0 c 0;move c 1 b 0;",
+            states(5) + "move a 0 b 0;move a 1 e 0;move b 0 d 0;move b 1 d 0;move c 0 a 0;move c 1 e 0;move d 0 c 0;"
+                + "move d 1 e 0;move e 0 e 0;move e 1 e 0;",
+            SIX + "inputs 1;move a 0 f 0;move b 0 b 0;move c 0 c 0;move d 0 c 0;move e 0 c 0;move f 0 e 0;",
+            SIX + "inputs 1;move a 0 d 0;move c 0 c 0;move d 0 e 0;move e 0 f 0;move f 0 f 0;",
             SIX + "move a 0 d 0;move b 0 c 0;move c 0 b 0;move d 0 f 0;move e 0 b 0;move f 0 b 0;move b 1 e 0;move e 1 a 0;"
         };
         for (String text : texts) {
