@@ -34,7 +34,8 @@ public final class OracleTest {
             oneRun(random, run);
         }
         for (int run = 0; run < runs * 20 && wrong < 20; run++) {
-            oneText(random, run);
+            oneText(random, run, spoil(random, machineText(random, new Plain().drawShape(random))));
+            oneText(random, run, crowd(random));
         }
         System.out.println(asked + " answers held against the plain ones, " + wrong + " wrong");
         if (wrong > 0) {
@@ -50,11 +51,12 @@ public final class OracleTest {
         }
     }
 
-    private static void oneText(Random random, int run) {
+    /** One text, and two drawn ones behind it. */
+    private static void oneText(Random random, int run, String first) {
         StateMill mill = new StateMill();
         Plain plain = new Plain();
         for (int times = 0; times < 3; times++) {
-            String text = spoil(random, machineText(random, plain.drawShape(random)));
+            String text = times == 0 ? first : spoil(random, machineText(random, plain.drawShape(random)));
             feedText(mill, plain, text);
             String name = "text " + run + " <" + text + ">";
             due(name + " read", mill.read(), plain.read());
@@ -148,6 +150,31 @@ public final class OracleTest {
             text.append("code ").append(names[random.nextInt(shape[0])]).append(random.nextInt(8)).append(";");
         }
         return text.toString();
+    }
+
+    /** Whole lines up to some number of TOKENS, often about as many as there may be, and something behind them. */
+    private static String crowd(Random random) {
+        String[] lines = {
+            "code a 7;", "move a 0 b 1;", "move b 1 open open;", "inputs 1;", "inputs 4;", "code b 2;", "state a;",
+            "inputs 5;", "move z 0 a 0;", "move a 3 a 3;", "code z 9;", "state g;"
+        };
+        int[] sizes = {4, 6, 6, 3, 3, 4, 3, 3, 6, 6, 4, 3};
+        String[] behind = {
+            "", " ", "state", "state g", "state g;", "inputs", "inputs 2", "inputs 2;", "x", "9", ";", "#", "code a 1",
+            "code a 12345", "move a 0 b", "state g;state h;state i;state j;", "abcdefghi"
+        };
+        int most = random.nextInt(4) == 0 ? random.nextInt(400) : 396 + random.nextInt(7);
+        int wrongOnes = random.nextInt(3) == 0 ? lines.length : 6;
+        StringBuilder made = new StringBuilder("state a;state b;");
+        int tokens = 6;
+        for (int turn = 0; turn < 400; turn++) {
+            int pick = random.nextInt(wrongOnes);
+            if (tokens + sizes[pick] <= most && made.length() < 1950) {
+                made.append(lines[pick]);
+                tokens += sizes[pick];
+            }
+        }
+        return made.append(behind[random.nextInt(behind.length)]).toString();
     }
 
     private static String spoil(Random random, String text) {
